@@ -519,6 +519,10 @@ public final class PromisesTest {
                 outputIs("zero", program(op(ZERO, 1, 2), op(OUT, 0, 0), op(OUT, 1, 0)), p, s, s == 0 ? new int[] {0} : new int[] {p, s});
             }
         }
+        // Each run begins anew, whatever the run before it left in the registers.
+        SecretFlows anew = program(op(OUT, 2, 0), op(OUT, 3, 0), op(SET, 2, 1), op(SET, 3, 2));
+        outputIs("first run", anew, 1, 1, 0, 0);
+        outputIs("second run", anew, 1, 1, 0, 0);
         SecretFlows f = branchOnSecret();
         int[] noOuts = {-1, 2, 59, 60, 61, Integer.MIN_VALUE, Integer.MAX_VALUE};
         for (int i : noOuts) {
@@ -541,6 +545,7 @@ public final class PromisesTest {
         due("shows, two", program(op(ADD, 1, 1), op(OUT, 1, 0)).shows(2), 2);
         due("shows, without the tired", program(op(ZERO, 1, 0), op(OUT, 1, 0)).shows(0), 3);
         due("shows, tired with output", program(op(OUT, 1, 0), op(ZERO, 1, 1)).shows(0), 3);
+        due("shows, as a tired one put out", program(op(OUT, 2, 0), op(ZERO, 1, 1)).shows(0), 1);
         due("shows, all tired", program(op(OUT, 1, 0), op(JUMP, 0, 0)).shows(0), 0);
         due("shows, by length alone", program(op(OUT, 2, 0), op(ZERO, 1, 3), op(OUT, 2, 0)).shows(0), 2);
         due("shows, by the last alone", program(op(OUT, 2, 0), op(OUT, 2, 0), op(OUT, 1, 0)).shows(0), 4);
