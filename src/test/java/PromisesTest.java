@@ -1,102 +1,5 @@
 // Hand-made cases for each promise of the document: ordinary inputs, the named edges, wrong inputs.
-public final class PromisesTest {
-    private static final int SET = 0;
-    private static final int MOVE = 1;
-    private static final int ADD = 2;
-    private static final int SUB = 3;
-    private static final int OUT = 4;
-    private static final int JUMP = 5;
-    private static final int ZERO = 6;
-    private static final int HALT = 7;
-
-    private static final int BAD_ARG = -1;
-    private static final int FULL = -2;
-    private static final int NONE = -4;
-    private static final int DONE = 0;
-    private static final int TIRED = 1;
-
-    private static final int[] NO_NUMBERS = {-1, 4, Integer.MIN_VALUE, Integer.MAX_VALUE};
-
-    private static int wrong = 0;
-
-    private static void due(String call, int got, int want) {
-        if (got != want) {
-            wrong++;
-            System.out.println(call + " answered " + got + ", due is " + want);
-        }
-    }
-
-    private static int[] op(int op, int r, int x) {
-        return new int[] {op, r, x};
-    }
-
-    private static SecretFlows program(int[]... instructions) {
-        SecretFlows f = new SecretFlows();
-        due("program: set", f.set(0, instructions[0][0], instructions[0][1], instructions[0][2]), 0);
-        for (int i = 1; i < instructions.length; i++) {
-            int[] each = instructions[i];
-            due("program: put", f.put(each[0], each[1], each[2]), i);
-        }
-        return f;
-    }
-
-    /** An if on the secret: place 1 or place 3 sets register 2, place 4 is where they meet. */
-    private static SecretFlows branchOnSecret() {
-        return program(op(ZERO, 1, 3), op(SET, 2, 1), op(JUMP, 0, 4), op(SET, 2, 2), op(OUT, 2, 0), op(OUT, 0, 0));
-    }
-
-    private static void outputIs(String what, SecretFlows f, int p, int s, int... want) {
-        due(what + ": outs", f.outs(p, s), want.length);
-        for (int i = 0; i < want.length; i++) {
-            due(what + ": out " + i, f.out(p, s, i), want[i]);
-        }
-        due(what + ": out behind the last", f.out(p, s, want.length), NONE);
-    }
-
-    private static void underAre(String what, SecretFlows f, int b, int... want) {
-        for (int q = 0; q < f.size(); q++) {
-            int expected = 0;
-            for (int each : want) {
-                if (each == q) {
-                    expected = 1;
-                }
-            }
-            due(what + ": under(" + q + ", " + b + ")", f.under(q, b), expected);
-        }
-    }
-
-    private static void knowingAre(String what, SecretFlows f, int i, int... want) {
-        for (int r = 0; r < 4; r++) {
-            int expected = 0;
-            for (int each : want) {
-                if (each == r) {
-                    expected = 1;
-                }
-            }
-            due(what + ": knows(" + i + ", " + r + ")", f.knows(i, r), expected);
-        }
-    }
-
-    private static void isOneHalt(String what, SecretFlows f) {
-        due(what + ": size", f.size(), 1);
-        due(what + ": comeTo", f.comeTo(0), 1);
-        due(what + ": meeting", f.meeting(0), 1);
-        due(what + ": under", f.under(0, 0), 0);
-        due(what + ": secret", f.secret(0), 0);
-        knowingAre(what, f, 0, 1);
-        due(what + ": bad", f.bad(), NONE);
-        due(what + ": safe", f.safe(), 1);
-        due(what + ": run", f.run(3, 2), DONE);
-        due(what + ": steps", f.steps(3, 2), 1);
-        due(what + ": outs", f.outs(3, 2), 0);
-        due(what + ": shows", f.shows(3), 1);
-        due(what + ": leaks", f.leaks(), 0);
-        // A second instruction is not come to: the first is a halt, and no jump to place 1.
-        due(what + ": put", f.put(OUT, 1, 0), 1);
-        due(what + ": comeTo behind halt", f.comeTo(1), 0);
-        due(what + ": meeting of halt", f.meeting(0), 2);
-    }
-
+public final class PromisesTest extends Answers {
     private static void promise1NewObject() {
         isOneHalt("new", new SecretFlows());
         // Objects share nothing.
@@ -107,7 +10,7 @@ public final class PromisesTest {
 
     private static void promise2Put() {
         SecretFlows f = new SecretFlows();
-        int[] noOps = {-1, 8, Integer.MIN_VALUE, Integer.MAX_VALUE};
+        int[] noOps = {-1, 8, MIN, MAX};
         for (int bad : noOps) {
             due("put op " + bad, f.put(bad, 0, 0), BAD_ARG);
         }
@@ -122,7 +25,7 @@ public final class PromisesTest {
                 due("put " + op + " x " + bad, f.put(op, 0, bad), BAD_ARG);
             }
         }
-        int[] noTargets = {-1, 17, Integer.MIN_VALUE, Integer.MAX_VALUE};
+        int[] noTargets = {-1, 17, MIN, MAX};
         for (int bad : noTargets) {
             due("put jump x " + bad, f.put(JUMP, 0, bad), BAD_ARG);
             due("put zero x " + bad, f.put(ZERO, 0, bad), BAD_ARG);
@@ -140,12 +43,12 @@ public final class PromisesTest {
             due("put " + op + " 0 0", f.put(op, 0, 0), place++);
         }
         due("put out, x not looked at", f.put(OUT, 3, -1), place++);
-        due("put out, x not looked at", f.put(OUT, 0, Integer.MAX_VALUE), place++);
+        due("put out, x not looked at", f.put(OUT, 0, MAX), place++);
         due("put jump, r not looked at", f.put(JUMP, -1, 0), place++);
-        due("put jump, r not looked at", f.put(JUMP, Integer.MAX_VALUE, 16), place++);
+        due("put jump, r not looked at", f.put(JUMP, MAX, 16), place++);
         due("put zero", f.put(ZERO, 3, 16), place++);
         due("put halt, r and x not looked at", f.put(HALT, 9, -9), place++);
-        due("put halt, r and x not looked at", f.put(HALT, Integer.MIN_VALUE, Integer.MAX_VALUE), place++);
+        due("put halt, r and x not looked at", f.put(HALT, MIN, MAX), place++);
         due("size after all", f.size(), 16);
         // What is not looked at does no harm when the instruction is reached either.
         SecretFlows g = program(op(OUT, 0, -1), op(JUMP, -1, 3), op(HALT, 9, -9), op(HALT, 99, 99));
@@ -171,7 +74,7 @@ public final class PromisesTest {
 
     private static void promise3Set() {
         SecretFlows f = program(op(OUT, 0, 0), op(OUT, 1, 0), op(OUT, 0, 0));
-        int[] noPlaces = {-1, 3, 16, Integer.MIN_VALUE, Integer.MAX_VALUE};
+        int[] noPlaces = {-1, 3, 16, MIN, MAX};
         for (int bad : noPlaces) {
             due("set at " + bad, f.set(bad, HALT, 0, 0), NONE);
             due("set at " + bad + " with a bad op", f.set(bad, 8, 0, 0), NONE);
@@ -246,8 +149,8 @@ public final class PromisesTest {
         }
         due("comeTo of the end", f.comeTo(6), BAD_ARG);
         due("comeTo(-1)", f.comeTo(-1), BAD_ARG);
-        due("comeTo(MAX)", f.comeTo(Integer.MAX_VALUE), BAD_ARG);
-        due("comeTo(MIN)", f.comeTo(Integer.MIN_VALUE), BAD_ARG);
+        due("comeTo(MAX)", f.comeTo(MAX), BAD_ARG);
+        due("comeTo(MIN)", f.comeTo(MIN), BAD_ARG);
         // Ways ask where instructions may go on, not where runs do: register 2 is always 0 here.
         SecretFlows g = program(op(ZERO, 2, 2), op(OUT, 0, 0), op(HALT, 0, 0));
         due("comeTo where no run comes", g.comeTo(1), 1);
@@ -270,7 +173,7 @@ public final class PromisesTest {
         }
         due("meeting of the end", f.meeting(6), BAD_ARG);
         due("meeting(-1)", f.meeting(-1), BAD_ARG);
-        due("meeting(MAX)", f.meeting(Integer.MAX_VALUE), BAD_ARG);
+        due("meeting(MAX)", f.meeting(MAX), BAD_ARG);
         // The loop's head meets behind the loop, its body at the head, and that at a smaller number.
         SecretFlows loop = program(op(SET, 2, 1), op(ZERO, 0, 4), op(SUB, 0, 2), op(JUMP, 0, 1), op(OUT, 3, 0));
         due("meeting of a loop's head", loop.meeting(1), 4);
@@ -293,7 +196,7 @@ public final class PromisesTest {
         underAre("branches", f, 0, 1, 2, 3);
         underAre("straight", f, 1);
         underAre("last", f, 5);
-        int[] noPlaces = {-1, 6, 16, Integer.MIN_VALUE, Integer.MAX_VALUE};
+        int[] noPlaces = {-1, 6, 16, MIN, MAX};
         for (int bad : noPlaces) {
             due("under(" + bad + ", 0)", f.under(bad, 0), BAD_ARG);
             due("under(0, " + bad + ")", f.under(0, bad), BAD_ARG);
@@ -324,7 +227,7 @@ public final class PromisesTest {
         knowingAre("after move of the unknowing", f, 5, 2);
         knowingAre("after sub of the unknowing", f, 6, 2);
         knowingAre("after sub of the knowing", f, 7, 0, 2);
-        int[] noPlaces = {-1, 8, Integer.MIN_VALUE, Integer.MAX_VALUE};
+        int[] noPlaces = {-1, 8, MIN, MAX};
         for (int bad : noPlaces) {
             due("knows(" + bad + ", 0)", f.knows(bad, 0), BAD_ARG);
             due("knows(" + bad + ", 4)", f.knows(bad, 4), BAD_ARG);
@@ -382,8 +285,8 @@ public final class PromisesTest {
         }
         due("secret of the end", f.secret(6), BAD_ARG);
         due("secret(-1)", f.secret(-1), BAD_ARG);
-        due("secret(MIN)", f.secret(Integer.MIN_VALUE), BAD_ARG);
-        due("secret(MAX)", f.secret(Integer.MAX_VALUE), BAD_ARG);
+        due("secret(MIN)", f.secret(MIN), BAD_ARG);
+        due("secret(MAX)", f.secret(MAX), BAD_ARG);
         due("set makes it secret", f.set(2, MOVE, 0, 1), 0);
         due("secret after set", f.secret(3), 1);
         due("out of the knowing is not secret", program(op(OUT, 1, 0)).secret(0), 0);
@@ -429,15 +332,6 @@ public final class PromisesTest {
         SecretFlows g = program(op(SUB, 1, 1), op(OUT, 1, 0));
         due("safe, nothing shown", g.safe(), 0);
         due("leaks, nothing shown", g.leaks(), 0);
-    }
-
-    /** With public 0 and k outs behind its two loops this does 56 + k instructions. */
-    private static SecretFlows longRun(int k) {
-        SecretFlows f = program(op(SET, 2, 1), op(SUB, 0, 2), op(ZERO, 0, 4), op(JUMP, 0, 1), op(SUB, 3, 2), op(ZERO, 3, 7), op(JUMP, 0, 1));
-        for (int i = 0; i < k; i++) {
-            f.put(OUT, 1, 0);
-        }
-        return f;
     }
 
     private static void badNumbers(SecretFlows f) {
@@ -524,7 +418,7 @@ public final class PromisesTest {
         outputIs("first run", anew, 1, 1, 0, 0);
         outputIs("second run", anew, 1, 1, 0, 0);
         SecretFlows f = branchOnSecret();
-        int[] noOuts = {-1, 2, 59, 60, 61, Integer.MIN_VALUE, Integer.MAX_VALUE};
+        int[] noOuts = {-1, 2, 59, 60, 61, MIN, MAX};
         for (int i : noOuts) {
             due("out(1, 1, " + i + ")", f.out(1, 1, i), NONE);
         }
@@ -637,16 +531,7 @@ public final class PromisesTest {
         due("target 15: bad", f.bad(), 15);
     }
 
-    private static void constants() {
-        due("BAD_ARG", SecretFlows.BAD_ARG, BAD_ARG);
-        due("FULL", SecretFlows.FULL, FULL);
-        due("NONE", SecretFlows.NONE, NONE);
-        due("DONE", SecretFlows.DONE, DONE);
-        due("TIRED", SecretFlows.TIRED, TIRED);
-    }
-
     public static void main(String[] args) {
-        constants();
         promise1NewObject();
         promise2Put();
         promise3Set();
@@ -666,9 +551,6 @@ public final class PromisesTest {
         promise17Shows();
         promise18Leaks();
         promise19Targets();
-        System.out.println(wrong == 0 ? "all answers are as due" : wrong + " answers are not as due");
-        if (wrong != 0) {
-            System.exit(1);
-        }
+        endTest();
     }
 }
